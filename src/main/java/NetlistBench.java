@@ -45,7 +45,7 @@ public final class NetlistBench {
 
     private final int[] kinds = new int[MAX_SIGNALS];
     private final int[] widths = new int[MAX_SIGNALS];
-    // An operand that a kind does not have is kept as 0, so that it is always a safe index.
+    // An operand that a kind does not have stays 0 whatever was given for it, so that it is a safe index.
     private final int[] operandX = new int[MAX_SIGNALS];
     private final int[] operandY = new int[MAX_SIGNALS];
     private final int[] operandZ = new int[MAX_SIGNALS];
@@ -87,7 +87,7 @@ public final class NetlistBench {
             return BAD;
         }
         int width = resultWidth(kind, x, y, z);
-        if (width < 1 || width > MAX_WIDTH) {
+        if (!isWidth(width)) {
             return BAD;
         }
         int cost = costOf(kind, x, width);
@@ -269,6 +269,10 @@ public final class NetlistBench {
         return isSignal(s) && isSignal(t) && widths[s] == widths[t];
     }
 
+    private static boolean isWidth(int width) {
+        return width >= 1 && width <= MAX_WIDTH;
+    }
+
     private static boolean fitsWidth(int value, int width) {
         return value >= 0 && value < 1 << width;
     }
@@ -308,10 +312,6 @@ public final class NetlistBench {
             default:
                 return areOfSameWidth(x, y);
         }
-    }
-
-    private static boolean isWidth(int width) {
-        return width >= 1 && width <= MAX_WIDTH;
     }
 
     // Called only with operands that fit.
@@ -390,11 +390,7 @@ public final class NetlistBench {
 
     private void giveOperands(int made, int x, int y, int z) {
         int operands = operandCount(kinds[made]);
-        operandX[made] = 0;
-        operandY[made] = 0;
-        operandZ[made] = 0;
         reached[made] = 1 << made;
-        depths[made] = operands > 0 ? 1 : 0;
         if (operands > 0) {
             operandX[made] = x;
             standBehind(made, x);

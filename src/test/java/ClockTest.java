@@ -6,6 +6,7 @@ public final class ClockTest {
         connecting();
         refusedConnectChangesNothing();
         connectingAgain();
+        withoutNextSignal();
         registersSwapAtOnce();
         enabling();
         numberOfTicks();
@@ -73,6 +74,15 @@ public final class ClockTest {
         x.connect(0, 2, -1);
         Check.due("6 to 3", x.clock(2), 2);
         Check.due("the later next signal", x.peek(0), 3);
+    }
+
+    private static void withoutNextSignal() {
+        NetlistBench x = new NetlistBench();
+        x.signal(1, 3, 6, 0);
+        x.signal(2, 3, 5, 0);
+        x.signal(1, 1, 1, 0);
+        Check.due("a register without a next signal", x.clock(3), 0);
+        Check.due("keeps what it has", x.peek(1), 5);
     }
 
     private static void registersSwapAtOnce() {

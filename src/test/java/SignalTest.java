@@ -20,6 +20,7 @@ public final class SignalTest {
         costLimitEdges();
         stateWidthLimit();
         twentyFourSignals();
+        everyCallWithTwentyFour();
         orderOfTests();
         refusedMakesNothing();
         Check.end();
@@ -308,6 +309,27 @@ public final class SignalTest {
             Check.due("peek(" + i + ")", x.peek(i), i);
         }
         Check.due("peek(24)", x.peek(24), BAD);
+    }
+
+    private static void everyCallWithTwentyFour() {
+        NetlistBench x = new NetlistBench();
+        for (int i = 0; i < 23; i++) {
+            x.signal(1, 1, 1, 0);
+        }
+        Check.due("a register as the last", x.signal(2, 1, 0, 0), 23);
+        Check.due("connect", x.connect(23, 22, 21), true);
+        Check.due("clock", x.clock(1), 1);
+        x.keep();
+        x.reset();
+        Check.due("reset", x.peek(23), 0);
+        x.back();
+        Check.due("back", x.peek(23), 1);
+        Check.due("equivalent", x.equivalent(23, 22), 0);
+        Check.due("satisfied", x.satisfied(23), 1);
+        Check.due("depth", x.depth(23), 0);
+        Check.due("force", x.force(23, 0), true);
+        Check.due("forced", x.peek(23), 0);
+        Check.due("no 25th", x.force(24, 0), false);
     }
 
     private static void orderOfTests() {

@@ -7,6 +7,7 @@ public final class StateTest {
         registersMadeAfterKeep();
         forcedRegisters();
         resetLeavesTheNote();
+        everyWord();
         levels();
         levelShowsInNoAnswer();
         Check.end();
@@ -130,6 +131,17 @@ public final class StateTest {
         look("reset", x, 1, 6, 0, 0, 0, 0);
         x.back();
         look("back after reset", x, 2, 9, 0, 6, 0, 0);
+    }
+
+    private static void everyWord() {
+        NetlistBench x = machine();
+        x.clock(5);
+        look("five ticks", x, 2, 9, 9, 6, 9, 6);
+        x.keep();
+        x.reset();
+        look("every word reset", x, 1, 6, 0, 0, 0, 0);
+        x.back();
+        look("every word back", x, 2, 9, 9, 6, 9, 6);
     }
 
     private static void levels() {
