@@ -2,8 +2,17 @@
 final class Check {
     private static int wrong = 0;
     private static int looked = 0;
+    private static String quoted = "";
+    private static int lookedBefore = 0;
 
     private Check() {
+    }
+
+    /** The sentence of the document, with the heading it stands under, that the next answers are about. */
+    static void sentence(String heading, String words) {
+        leaveSentence();
+        quoted = heading + ": " + words;
+        lookedBefore = looked;
     }
 
     static void due(String call, long got, long want) {
@@ -11,6 +20,9 @@ final class Check {
         if (got != want) {
             wrong++;
             System.out.println(call + " answered " + got + ", due is " + want);
+            if (!quoted.isEmpty()) {
+                System.out.println("    where the document says: " + quoted);
+            }
         }
     }
 
@@ -19,9 +31,17 @@ final class Check {
     }
 
     static void end() {
+        leaveSentence();
         System.out.println(looked + " answers looked at, " + wrong + " not as due");
         if (wrong != 0 || looked == 0) {
             System.exit(1);
+        }
+    }
+
+    private static void leaveSentence() {
+        if (!quoted.isEmpty() && looked == lookedBefore) {
+            wrong++;
+            System.out.println("no answer was looked at for: " + quoted);
         }
     }
 }
