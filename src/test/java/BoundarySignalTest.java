@@ -7,6 +7,8 @@ public final class BoundarySignalTest {
 
     public static void main(String[] args) {
         atMostTwentyFour();
+        registerAsTheLast();
+        otherKindsAsTheLast();
         widthsOneToSix();
         turnedOver();
         logic();
@@ -58,6 +60,69 @@ public final class BoundarySignalTest {
             Check.due("the 24th is there", x.peek(23), kind == 3 ? 2 : 0);
             Check.due("the 25th is not", x.peek(24), BAD);
         }
+    }
+
+    /** 0: an input of width 4; 1: a place, 3; 2: the constant 1; with more constants 23 signals in all. */
+    private static NetlistBench allButOne() {
+        NetlistBench x = Circuits.inputs(4);
+        x.signal(1, 2, 3, 0);
+        for (int s = 2; s < 23; s++) {
+            x.signal(1, 1, 1, 0);
+        }
+        return x;
+    }
+
+    private static void registerAsTheLast() {
+        Check.sentence("Terms", "at most 24");
+        NetlistBench x = allButOne();
+        Check.due("signal", x.signal(2, 4, 5, 0), 23);
+        Check.due("connect", x.connect(23, 0, 22), true);
+        Check.due("port", x.port(1, 23, 22), true);
+        Check.due("drive", x.drive(0, 10), true);
+        Check.due("clock", x.clock(1), 4 + 2);
+        Check.due("peek", x.peek(23), 10);
+        Check.due("word", x.word(3), 5);
+        x.keep();
+        x.reset();
+        Check.due("reset", x.peek(23), 5);
+        Check.due("reset of the memory", x.word(3), 0);
+        x.back();
+        Check.due("back", x.peek(23), 10);
+        Check.due("back of the memory", x.word(3), 5);
+        Check.due("equivalent", x.equivalent(23, 0), 0);
+        Check.due("equivalent to itself", x.equivalent(23, 23), 1);
+        Check.due("satisfied", x.satisfied(23), 15);
+        Check.due("depth", x.depth(23), 0);
+        Check.due("force", x.force(23, 15), true);
+        Check.due("forced", x.peek(23), 15);
+        Check.due("level", x.level(0), true);
+        Check.due("there is no 24", x.force(24, 0), false);
+        Check.due("there is no 24", x.connect(23, 24, -1), false);
+        Check.due("there is no 24", x.satisfied(24), BAD);
+    }
+
+    private static void otherKindsAsTheLast() {
+        Check.sentence("Terms", "at most 24");
+        NetlistBench x = allButOne();
+        Check.due("an input", x.signal(0, 4, 0, 0), 23);
+        Check.due("drive", x.drive(23, 15), true);
+        Check.due("peek", x.peek(23), 15);
+        Check.due("satisfied", x.satisfied(23), 15);
+        Check.due("equivalent", x.equivalent(0, 23), 0);
+        NetlistBench y = allButOne();
+        Check.due("a word", y.signal(18, 1, 0, 0), 23);
+        Check.due("port", y.port(1, 0, 2), true);
+        y.drive(0, 9);
+        Check.due("clock", y.clock(1), 2);
+        Check.due("peek", y.peek(23), 9);
+        Check.due("satisfied", y.satisfied(23), NetlistBench.OPEN);
+        Check.due("depth", y.depth(23), 1);
+        NetlistBench z = allButOne();
+        Check.due("a gate", z.signal(3, 0, 0, 0), 23);
+        Check.due("peek", z.peek(23), 15);
+        Check.due("satisfied", z.satisfied(23), 15);
+        Check.due("equivalent", z.equivalent(23, 0), 0);
+        Check.due("depth", z.depth(23), 1);
     }
 
     private static void widthsOneToSix() {
@@ -628,7 +693,7 @@ public final class BoundarySignalTest {
         Circuits.spend(x, 220);
         Check.due("no costs were counted", x.signal(4, 0, 0, 0), FULL);
         int next = 7;
-        while (x.peek(next) != BAD) {
+        while (next < 24 && x.peek(next) != BAD) {
             next++;
         }
         for (int i = 0; i < 5; i++) {

@@ -27,6 +27,7 @@ public final class BoundaryWorkTest {
         clockForcedRegister();
         valuesFollow();
         tickAllAtOnce();
+        tickOfTheWordThatIsRead();
         tickNextAndEnable();
         tickMemory();
         memoryAtFirst();
@@ -504,6 +505,23 @@ public final class BoundaryWorkTest {
         Check.due("second tick", x.clock(1), 1 + 0 + 1 + 2 + 0);
         Check.due("got the word before", x.peek(0), 0);
         Check.due("not enabled before", x.peek(1), 1);
+    }
+
+    /** A register and a word that swap: 1 gets the word at the place where its own value is written. */
+    private static void tickOfTheWordThatIsRead() {
+        Check.sentence("Terms", "At a CLOCK TICK, all at once from the values before it");
+        NetlistBench x = new NetlistBench();
+        x.signal(1, 2, 3, 0);
+        x.signal(2, 4, 13, 0);
+        x.signal(18, 0, 0, 0);
+        x.signal(1, 1, 1, 0);
+        x.connect(1, 2, -1);
+        x.port(0, 1, 3);
+        for (int i = 0; i < 4; i++) {
+            Check.due("swap number " + i, x.clock(1), 3 + 3);
+            Check.due("the register", x.peek(1), i % 2 == 0 ? 0 : 13);
+            Check.due("the word", x.word(3), i % 2 == 0 ? 13 : 0);
+        }
     }
 
     private static void tickNextAndEnable() {
