@@ -353,16 +353,6 @@ public final class BoundaryWorkTest {
         }
     }
 
-    /** 0 counts the ticks. */
-    private static NetlistBench counter() {
-        NetlistBench x = new NetlistBench();
-        x.signal(2, 6, 0, 0);
-        x.signal(1, 6, 1, 0);
-        x.signal(7, 0, 1, 0);
-        x.connect(0, 2, -1);
-        return x;
-    }
-
     /** How many bits the counter changes in so many ticks. */
     private static int bitsFrom(int start, int ticks) {
         int bits = 0;
@@ -377,11 +367,11 @@ public final class BoundaryWorkTest {
         int[][] cases = {{MIN, 0}, {MIN + 1, 0}, {-41, 0}, {-40, 0}, {-2, 0}, {-1, 0}, {0, 0}, {1, 1}, {2, 2}, {38, 38},
             {39, 39}, {40, 40}, {41, 40}, {42, 40}, {64, 40}, {1 << 16, 40}, {MAX - 1, 40}, {MAX, 40}};
         for (int[] each : cases) {
-            NetlistBench x = counter();
+            NetlistBench x = Circuits.counter();
             Check.due("clock(" + each[0] + ")", x.clock(each[0]), bitsFrom(0, each[1]));
             Check.due("ticks of clock(" + each[0] + ")", x.peek(0), each[1]);
         }
-        NetlistBench y = counter();
+        NetlistBench y = Circuits.counter();
         y.clock(40);
         Check.due("40 to 63", y.clock(23), bitsFrom(40, 23));
         Check.due("63 to 0", y.clock(1), 6);

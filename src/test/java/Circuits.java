@@ -21,6 +21,16 @@ final class Circuits {
         return inputs(1, 2, 3, 4, 5, 6);
     }
 
+    /** 0 is a register of width 6 that counts the ticks. */
+    static NetlistBench counter() {
+        NetlistBench x = new NetlistBench();
+        x.signal(2, 6, 0, 0);
+        x.signal(1, 6, 1, 0);
+        x.signal(7, 0, 1, 0);
+        x.connect(0, 2, -1);
+        return x;
+    }
+
     /** A signal of each kind: signal number i is of kind i, each of a width that widthOfKind tells. */
     static NetlistBench everyKind() {
         NetlistBench x = new NetlistBench();

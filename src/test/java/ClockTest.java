@@ -120,20 +120,11 @@ public final class ClockTest {
         Check.due("every other tick", x.peek(2), 4);
     }
 
-    private static NetlistBench counter() {
-        NetlistBench x = new NetlistBench();
-        x.signal(2, 6, 0, 0);
-        x.signal(1, 6, 1, 0);
-        x.signal(7, 0, 1, 0);
-        x.connect(0, 2, -1);
-        return x;
-    }
-
     private static void numberOfTicks() {
         int[][] cases = {{0, 0}, {-1, 0}, {Integer.MIN_VALUE, 0}, {1, 1}, {39, 39}, {40, 40}, {41, 40},
             {Integer.MAX_VALUE, 40}};
         for (int[] each : cases) {
-            NetlistBench x = counter();
+            NetlistBench x = Circuits.counter();
             int bits = 0;
             for (int i = 0; i < each[1]; i++) {
                 bits += Integer.bitCount(i ^ i + 1);
@@ -141,7 +132,7 @@ public final class ClockTest {
             Check.due("clock(" + each[0] + ")", x.clock(each[0]), bits);
             Check.due("after clock(" + each[0] + ")", x.peek(0), each[1]);
         }
-        NetlistBench x = counter();
+        NetlistBench x = Circuits.counter();
         x.clock(40);
         x.clock(25);
         Check.due("modulo 64", x.peek(0), 1);

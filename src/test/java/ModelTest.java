@@ -1,4 +1,7 @@
+import java.lang.reflect.Field;
+import java.lang.reflect.Modifier;
 import java.util.ArrayList;
+import java.util.Arrays;
 import java.util.List;
 import java.util.Set;
 import java.util.TreeSet;
@@ -322,6 +325,16 @@ public final class ModelTest {
         return someSignal(m);
     }
 
+    private int signalOfKind(Model m, int kind) {
+        for (int i = 0; i < 12; i++) {
+            int s = someSignal(m);
+            if (m.at(s) != null && m.at(s).kind == kind) {
+                return s;
+            }
+        }
+        return someSignal(m);
+    }
+
     private int someNumber(Model m, int s) {
         int width = m.at(s) == null ? 6 : m.at(s).width;
         return pick(12) == 0 ? pick(80) - 8 : pick(1 << width);
@@ -356,10 +369,7 @@ public final class ModelTest {
         int s = someSignal(m);
         switch (pick(9)) {
             case 0: {
-                int r = pick(m.nodes.size() + 1);
-                for (int i = 0; i < 12 && (m.at(r) == null || m.at(r).kind != 2); i++) {
-                    r = someSignal(m);
-                }
+                int r = signalOfKind(m, 2);
                 int next = m.at(r) == null ? s : signalOf(m, m.at(r).width);
                 int enable = pick(2) == 0 ? -1 : signalOf(m, 1);
                 String call = run + "connect(" + r + ", " + next + ", " + enable + ")";
@@ -376,12 +386,13 @@ public final class ModelTest {
             }
             case 2:
             case 3: {
-                int value = someNumber(m, s);
-                Check.due(run + "drive(" + s + ", " + value + ")", x.drive(s, value), m.drive(s, value));
+                int input = signalOfKind(m, 0);
+                int value = someNumber(m, input);
+                Check.due(run + "drive(" + input + ", " + value + ")", x.drive(input, value), m.drive(input, value));
                 return;
             }
             case 4: {
-                int value = pick(2) == 0 ? -1 : someNumber(m, s);
+                int value = pick(4) != 0 ? -1 : someNumber(m, s);
                 Check.due(run + "force(" + s + ", " + value + ")", x.force(s, value), m.force(s, value));
                 return;
             }
@@ -393,12 +404,31 @@ public final class ModelTest {
             }
             case 7: {
                 int k = pick(5) - 1;
+                String before = fieldsOf(x);
                 Check.due(run + "level(" + k + ")", x.level(k), k >= 0 && k <= 2);
+                Check.due(run + "level(" + k + ") left every field as it was", fieldsOf(x).equals(before), true);
                 return;
             }
             default:
                 noteOrRestore(x, m);
         }
+    }
+
+    // A level that leaves every field as it was can show in no later answer, whatever the run. A class
+    // that remembers its level would need another test here: how the state is held is free.
+    private static String fieldsOf(NetlistBench x) {
+        List<Object> values = new ArrayList<>();
+        for (Field each : NetlistBench.class.getDeclaredFields()) {
+            if (!Modifier.isStatic(each.getModifiers())) {
+                each.setAccessible(true);
+                try {
+                    values.add(each.get(x));
+                } catch (IllegalAccessException e) {
+                    throw new IllegalStateException(e);
+                }
+            }
+        }
+        return Arrays.deepToString(values.toArray());
     }
 
     private void noteOrRestore(NetlistBench x, Model m) {
@@ -438,11 +468,25 @@ public final class ModelTest {
         }
     }
 
+    /** A memory that is written at each tick, and a word read; answers how many calls that took. */
+    private int beginWithMemory(String run, NetlistBench x, Model m) {
+        int[][] made = {{0, 2, 0, 0}, {0, 4, 0, 0}, {2, 1, 1, 0}, {18, 0, 0, 0}};
+        for (int[] each : made) {
+            String call = run + "signal(" + each[0] + ", " + each[1] + ", " + each[2] + ", " + each[3] + ")";
+            Check.due(call, x.signal(each[0], each[1], each[2], each[3]),
+                m.signal(each[0], each[1], each[2], each[3]));
+        }
+        Check.due(run + "port(0, 1, 2)", x.port(0, 1, 2), m.port(0, 1, 2));
+        return made.length + 1;
+    }
+
     private void run(int number) {
         seed = number;
         NetlistBench x = new NetlistBench();
         Model m = new Model();
-        for (int calls = 0; calls < CALLS; calls++) {
+        // Left to themselves most runs never write a word that is not 0.
+        int begun = number % 2 == 0 ? beginWithMemory("run " + number + ", first calls: ", x, m) : 0;
+        for (int calls = begun; calls < CALLS; calls++) {
             String run = "run " + number + ", call " + calls + ": ";
             int which = pick(10);
             if (calls < 12 || which < (calls < 120 ? 3 : 1)) {

@@ -94,21 +94,12 @@ public final class SignalTest {
         }
     }
 
-    /** Signals 0..5 are inputs of widths 1..6. */
-    private static NetlistBench sixInputs() {
-        NetlistBench x = new NetlistBench();
-        for (int width = 1; width <= 6; width++) {
-            x.signal(0, width, 0, 0);
-        }
-        return x;
-    }
-
     private static void operandsOfEachKind() {
         for (int kind = 3; kind <= 18; kind++) {
             for (int a = -1; a <= 6; a++) {
                 for (int b = -1; b <= 6; b++) {
                     for (int c = -1; c <= 6; c++) {
-                        NetlistBench x = sixInputs();
+                        NetlistBench x = Circuits.sixInputs();
                         String call = "signal(" + kind + ", " + a + ", " + b + ", " + c + ")";
                         Check.due(call, x.signal(kind, a, b, c), fits(kind, a, b, c) ? 6 : BAD);
                     }
@@ -117,13 +108,13 @@ public final class SignalTest {
         }
         for (int wild : new int[] {MIN, MAX, 24, 99, -2}) {
             for (int kind = 3; kind <= 18; kind++) {
-                NetlistBench x = sixInputs();
+                NetlistBench x = Circuits.sixInputs();
                 Check.due("kind " + kind + ", x " + wild, x.signal(kind, wild, 1, 1), BAD);
                 if (kind != 3 && kind < 17) {
                     Check.due("kind " + kind + ", y " + wild, x.signal(kind, 0, wild, 0), BAD);
                 }
             }
-            Check.due("kind 12, z " + wild, sixInputs().signal(12, 0, 0, wild), BAD);
+            Check.due("kind 12, z " + wild, Circuits.sixInputs().signal(12, 0, 0, wild), BAD);
         }
     }
 
@@ -154,14 +145,14 @@ public final class SignalTest {
     }
 
     private static void productWidth() {
-        NetlistBench x = sixInputs();
+        NetlistBench x = Circuits.sixInputs();
         Check.due("product of width 4", x.signal(9, 3, 3, 0), BAD);
         Check.due("product of width 6", x.signal(9, 5, 5, 0), BAD);
         Check.due("product of width 3", x.signal(9, 2, 2, 0), 6);
     }
 
     private static void joinedWidth() {
-        NetlistBench x = sixInputs();
+        NetlistBench x = Circuits.sixInputs();
         Check.due("1 and 6 joined", x.signal(15, 0, 5, 0), BAD);
         Check.due("4 and 3 joined", x.signal(15, 3, 2, 0), BAD);
         Check.due("1 and 5 joined", x.signal(15, 0, 4, 0), 6);
@@ -169,7 +160,7 @@ public final class SignalTest {
     }
 
     private static void slices() {
-        NetlistBench x = sixInputs();
+        NetlistBench x = Circuits.sixInputs();
         Check.due("whole", x.signal(16, 5, 0, 6), 6);
         Check.due("highest bit", x.signal(16, 5, 5, 1), 7);
         Check.due("y is the width", x.signal(16, 5, 6, 1), BAD);
@@ -228,7 +219,7 @@ public final class SignalTest {
             {13, 4, 1, 0, 5}, {14, 4, 1, 0, 5}, {13, 0, 1, 0, 1}, {15, 0, 3, 0, 5}, {15, 1, 3, 0, 6}, {16, 5, 1, 4, 4},
             {17, 0, 0, 0, 3}, {17, 5, 0, 0, 3}, {18, 1, 0, 0, 4}};
         for (int[] call : calls) {
-            NetlistBench x = sixInputs();
+            NetlistBench x = Circuits.sixInputs();
             x.signal(call[0], call[1], call[2], call[3]);
             Check.due("width of kind " + call[0], widthOf(x, 6), call[4]);
         }
@@ -262,14 +253,14 @@ public final class SignalTest {
             {12, 0, 1, 1, 6}, {13, 5, 1, 0, 36}, {13, 0, 1, 0, 6}, {14, 5, 1, 0, 36}, {14, 2, 1, 0, 18},
             {15, 2, 2, 0, 0}, {16, 5, 0, 6, 0}, {17, 5, 0, 0, 72}, {17, 0, 0, 0, 12}, {18, 1, 0, 0, 40}};
         for (int[] call : calls) {
-            NetlistBench x = sixInputs();
+            NetlistBench x = Circuits.sixInputs();
             Check.due("kind " + call[0], x.signal(call[0], call[1], call[2], call[3]), 6);
             Check.due("cost of kind " + call[0] + " over " + call[1], 220 - costLeft(x), call[4]);
         }
     }
 
     private static void costLimitEdges() {
-        NetlistBench x = sixInputs();
+        NetlistBench x = Circuits.sixInputs();
         for (int i = 0; i < 4; i++) {
             Check.due("sum of cost 54", x.signal(7, 5, 5, 0), 6 + i);
         }
@@ -341,7 +332,7 @@ public final class SignalTest {
         Check.due("24 and a wrong kind", x.signal(-1, 0, 0, 0), FULL);
         Check.due("24 and a wrong operand", x.signal(3, 24, 0, 0), FULL);
         Check.due("24 and a wrong width", x.signal(0, 7, 0, 0), FULL);
-        NetlistBench y = sixInputs();
+        NetlistBench y = Circuits.sixInputs();
         for (int i = 0; i < 4; i++) {
             y.signal(7, 5, 5, 0);
         }
@@ -353,7 +344,7 @@ public final class SignalTest {
     }
 
     private static void refusedMakesNothing() {
-        NetlistBench x = sixInputs();
+        NetlistBench x = Circuits.sixInputs();
         x.signal(7, 5, 5, 0);
         x.signal(7, 5, 5, 0);
         x.signal(7, 5, 5, 0);
